@@ -1,4 +1,6 @@
+import java.util.List;
 import java.util.function.IntConsumer;
+import java.util.function.ToIntFunction;
 
 /**
  * Each promise of the document with ordinary inputs, the edges it names, and wrong inputs.
@@ -54,6 +56,7 @@ public final class PromiseTest {
         doesRefusedOrders();
         doesState();
         back();
+        backFromEach();
         backKeepsTextAndRefusals();
         told();
         digest();
@@ -286,6 +289,12 @@ public final class PromiseTest {
         due(7, "refused BAD", x.told(0), 5);
         due(7, "refused NO", x.told(1), 3);
         due(7, "refused FULL", x.told(2), 1);
+        for (int s = 0; s < 12; s++) {
+            CalledSquare z = withCalls(2);
+            z.wants(0, s, 1);
+            z.wants(1, s, 2);
+            due(7, "unlike wants of spot " + s, z.joins(0, 1), NO);
+        }
         // want of 4 in the first, and of the spot it goes to in the second
         CalledSquare y = new CalledSquare();
         cycle(y, 4, 5);
@@ -994,7 +1003,36 @@ public final class PromiseTest {
         x.on(99);
         x.call();
         x.gives(99);
+        x.judges();
+        x.rows(0, 1);
+        x.type(32);
+        x.clear();
         due(26, "no state by what is refused or asked", x.back(), 4);
+    }
+
+    private static void backFromEach() {
+        List<ToIntFunction<CalledSquare>> changes = List.of(
+            x -> x.dancer(7, 1), x -> x.call(), x -> x.exchanges(0, 1, 2), x -> x.turns(0, 1, 2),
+            x -> x.wants(0, 1, 2), x -> x.joins(0, 1), x -> x.backwards(0), x -> x.gives(1), x -> x.home(),
+            x -> x.plans(1), x -> x.scraps(), x -> x.does());
+        for (int i = 0; i < changes.size(); i++) {
+            CalledSquare x = new CalledSquare();
+            does(x, "k(0 1 2);k(0 5)(8 9);u1 0 1;d0 1;d8 2;g0;p0;");
+            x.scraps();
+            write(x, "p0;w1 11 2;g1;");
+            x.plans(0);
+            long before = x.digest();
+            int answer = changes.get(i).applyAsInt(x);
+            due(26, "change " + i + " is not refused", Math.min(answer, 0), 0);
+            due(26, "change " + i + " leaves a state", x.told(4), 4);
+            asked++;
+            if (x.digest() == before) {
+                wrong++;
+                System.out.println("promise 28: digest stays behind change " + i);
+            }
+            due(26, "back from change " + i, x.back(), 3);
+            due(26, "as ahead of change " + i, x.digest() - before, 0);
+        }
     }
 
     private static void backKeepsTextAndRefusals() {
