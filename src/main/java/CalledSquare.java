@@ -775,6 +775,8 @@ public final class CalledSquare {
     private static final class Search {
         /** As a call's number: nobody moves. It stands for the end of a row without calls. */
         private static final int NO_CALL = MOST_CALLS;
+        /** More than there are rows of any length. */
+        private static final int NEVER_ENOUGH = 1000000;
 
         final int[][] behind = new int[MOST_CALLS + 1][PLACES];
         final int[] wantedHeld = new int[MOST_CALLS];
@@ -816,7 +818,7 @@ public final class CalledSquare {
             start(now, g);
             mostOfEach = n;
             mayRepeat = true;
-            enough = Integer.MAX_VALUE;
+            enough = NEVER_ENOUGH;
             return rowsOfLength(n);
         }
 
@@ -1017,16 +1019,22 @@ public final class CalledSquare {
         }
 
         private boolean readCycle() {
-            int first = readSpot();
-            int last = first;
-            for (int n = 1; n <= SPOTS && last != NONE; n++) {
-                if (n >= 2 && nextSign() == ')') {
+            int first = NONE;
+            int last = NONE;
+            for (int n = 0; n <= SPOTS; n++) {
+                if (nextSign() == ')' && n >= 2) {
                     reader++;
                     goes[last] = first;
                     return true;
                 }
-                int spot = readSpot();
-                if (spot != NONE) {
+                int start = reader;
+                int spot = readNumber();
+                if (!takesSpot(spot, start)) {
+                    return false;
+                }
+                if (n == 0) {
+                    first = spot;
+                } else {
                     goes[last] = spot;
                 }
                 last = spot;
@@ -1034,19 +1042,15 @@ public final class CalledSquare {
             return false;
         }
 
-        private int readSpot() {
-            skipBlanks();
-            int start = reader;
-            int spot = readNumber();
+        private boolean takesSpot(int spot, int start) {
             if (spot == NONE) {
-                return NONE;
+                return false;
             }
             if (spot >= SPOTS || (spotsTold >> spot & 1) != 0) {
-                fails(start);
-                return NONE;
+                return fails(start);
             }
             spotsTold |= 1 << spot;
-            return spot;
+            return true;
         }
 
         /** NONE: no number stands there, or one of too many figures. */
