@@ -5,13 +5,17 @@ import java.util.Random;
 
 /** Many runs of calls, made up with fixed seeds, on CalledSquare and on NaiveSquare side by side. */
 public final class AgainstNaiveTest {
-    private static final int RUNS = 400;
-    private static final int CALLS_OF_A_RUN = 200;
+    private static final int RUNS = 600;
+    /** Two bytes more than a text may have. */
+    private static final int MOST_TYPED = 122;
+    /** What an object answers behind its 512th call is free: the last step begins early enough. */
+    private static final int CALLS_OF_A_RUN = 512 - MOST_TYPED - 3;
 
     private final Random random;
     private final CalledSquare x = new CalledSquare();
     private final NaiveSquare y = new NaiveSquare();
     private final List<String> calls = new ArrayList<>();
+    private int asked = 0;
     private boolean alike = true;
 
     private AgainstNaiveTest(long seed) {
@@ -23,14 +27,17 @@ public final class AgainstNaiveTest {
         for (int seed = 0; seed < RUNS && wrong < 5; seed++) {
             wrong += new AgainstNaiveTest(seed).run(seed) ? 0 : 1;
         }
-        System.out.println(RUNS + " runs of " + CALLS_OF_A_RUN + " calls, " + wrong + " wrong");
+        System.out.println(RUNS + " runs, " + wrong + " wrong");
         if (wrong != 0) {
             System.exit(1);
         }
     }
 
     private boolean run(int seed) {
-        for (int i = 0; i < CALLS_OF_A_RUN && alike; i++) {
+        if (seed % 2 == 1) {
+            crowd();
+        }
+        while (asked < CALLS_OF_A_RUN && alike) {
             step();
             if (alike) {
                 due("digest()", x.digest(), y.digest());
@@ -42,7 +49,20 @@ public final class AgainstNaiveTest {
         return alike;
     }
 
+    /** Nearly as much of everything as there may be, so that a run soon meets the bounds. */
+    private void crowd() {
+        for (int s = 0; s < 7; s++) {
+            due("dancer(" + s + ", " + s % 4 + ")", x.dancer(s, s % 4), y.dancer(s, s % 4));
+            due("call()", x.call(), y.call());
+        }
+        for (int c = 0; c < 7; c++) {
+            due("exchanges(" + c + ", " + c + ", 11)", x.exchanges(c, c, 11), y.exchanges(c, c, 11));
+            due("plans(" + c + ")", x.plans(c), y.plans(c));
+        }
+    }
+
     private void due(String call, long got, long want) {
+        asked++;
         if (!call.equals("digest()")) {
             calls.add(call);
         }
@@ -153,6 +173,7 @@ public final class AgainstNaiveTest {
         if (random.nextInt(3) == 0) {
             spoil(text);
         }
+        text.setLength(Math.min(text.length(), MOST_TYPED));
         for (int i = 0; i < text.length(); i++) {
             due("type(" + (int) text.charAt(i) + ")", x.type(text.charAt(i)), y.type(text.charAt(i)));
         }

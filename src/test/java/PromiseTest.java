@@ -6,19 +6,12 @@ import java.util.function.ToIntFunction;
  * Each promise of the document with ordinary inputs, the edges it names, and wrong inputs.
  * The due answers are worked out by hand from the document's words.
  */
-public final class PromiseTest {
-    private static final int NONE = -1, BAD = -2, NO = -3, FULL = -4;
-    private static final int[] WRONG = {-1, Integer.MIN_VALUE, Integer.MAX_VALUE};
-
-    private static int wrong = 0;
-    private static int asked = 0;
+public final class PromiseTest extends Checks {
+    private static final int[] WRONG = {-1, LEAST, MOST};
 
     private static void due(int promise, String what, long got, long want) {
-        asked++;
-        if (got != want) {
-            wrong++;
-            System.out.println("promise " + promise + ": " + what + " answered " + got + ", due is " + want);
-        }
+        about("promise " + promise);
+        due(what, got, want);
     }
 
     public static void main(String[] args) {
@@ -61,44 +54,8 @@ public final class PromiseTest {
         told();
         digest();
         wildNumbers();
-        System.out.println(asked + " answers looked at, " + wrong + " wrong");
-        if (wrong != 0) {
-            System.exit(1);
-        }
+        end();
     }
-
-    // ---- helpers
-
-    private static CalledSquare withCalls(int n) {
-        CalledSquare x = new CalledSquare();
-        for (int i = 0; i < n; i++) {
-            x.call();
-        }
-        return x;
-    }
-
-    /** A call by which the spots go round: each to the next, the last to the first. */
-    private static int cycle(CalledSquare x, int... spots) {
-        int c = x.call();
-        for (int i = 1; i < spots.length; i++) {
-            x.exchanges(c, spots[i - 1], spots[i]);
-        }
-        return c;
-    }
-
-    private static void write(CalledSquare x, String text) {
-        x.clear();
-        for (int i = 0; i < text.length(); i++) {
-            x.type(text.charAt(i));
-        }
-    }
-
-    private static int does(CalledSquare x, String text) {
-        write(x, text);
-        return x.does();
-    }
-
-    // ---- promises
 
     private static void newObject() {
         CalledSquare x = new CalledSquare();
@@ -1025,11 +982,7 @@ public final class PromiseTest {
             int answer = changes.get(i).applyAsInt(x);
             due(26, "change " + i + " is not refused", Math.min(answer, 0), 0);
             due(26, "change " + i + " leaves a state", x.told(4), 4);
-            asked++;
-            if (x.digest() == before) {
-                wrong++;
-                System.out.println("promise 28: digest stays behind change " + i);
-            }
+            due(28, "digest stays behind change " + i, x.digest() == before ? 1 : 0, 0);
             due(26, "back from change " + i, x.back(), 3);
             due(26, "as ahead of change " + i, x.digest() - before, 0);
         }
