@@ -30,6 +30,7 @@ public final class BoundaryTermsTest extends Checks {
         variedNotBehindItself();
         foundByAtMostN();
         foundFewestAndFirst();
+        foundOfAsManyAsThereMayBe();
         goalsWithoutAnybody();
         goals();
         lookingChangesNothing();
@@ -488,6 +489,29 @@ public final class BoundaryTermsTest extends Checks {
         due("0 1", x.found(0, 5, 5, 1), 1);
         x.turns(1, 2, 3);
         due("0 1 ahead of 1 0", x.found(0, 5, 5, 0), 0);
+    }
+
+    /** Eight dancers side by side, two spots ahead of home; of eight calls five never fit. */
+    private static void foundOfAsManyAsThereMayBe() {
+        term("FOUND for a GOAL, by n and v");
+        CalledSquare x = withDancers(0, 1, 2, 3, 4, 5, 6, 7);
+        does(x, "k(0 1 2 3 4 5 6 7 8 9 10 11);g0;g0;k;");
+        due("a step back", x.backwards(0), 2);
+        does(x, "k;w3 0 2;w3 4 2;");
+        for (int c = 4; c < 8; c++) {
+            due("one more that never fits", x.joins(3, 3), c);
+        }
+        due("a step back twice", x.finds(0, 5, 5), 3);
+        int[] row = {2, 1, 2, NONE};
+        for (int i = 0; i < 4; i++) {
+            due("call " + i, x.found(0, 5, 5, i), row[i]);
+        }
+        due("each once", x.finds(0, 5, 1), NONE);
+        due("paired now", x.finds(1, 5, 5), 0);
+        due("home and paired", x.finds(2, 5, 5), 3);
+        due("two steps back among four: 6 with two still, 4 with one forth", x.rows(0, 4), 10);
+        due("an even number of steps among four", x.rows(1, 4), 41);
+        due("both", x.rows(2, 4), 10);
     }
 
     private static void goalsWithoutAnybody() {
