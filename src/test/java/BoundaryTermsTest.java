@@ -801,7 +801,8 @@ public final class BoundaryTermsTest extends Checks {
         CalledSquare given = withDancers(0);
         does(given, "k(0 1 2 3 4 5 6 7 8 9 10 11);u0 0 1;");
         int calls = 1 + 1 + given.told(3) + 1 + 1;
-        int times = 512 - calls - 8;
+        int asked = 3 + 5 + 1;
+        int times = 512 - calls - asked;
         for (int i = 0; i < times; i++) {
             given.gives(0);
         }
